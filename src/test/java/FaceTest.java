@@ -54,8 +54,8 @@ public final class FaceTest {
 
     private static final String[] NEVER = {
         "\\bimport\\b", "\\bpackage\\b", "->", "::", "\\bsynchronized\\b", "\\bassert\\b", "\\bfinally\\b", "\\bcatch\\b",
-        "\\bprotected\\b", "\\bstatic\\s*\\{", "\\bThrowable\\b", "\\bclone\\b", "Exact\\b", "\\bFloat\\.", "\\bDouble\\.",
-        "\\bSystem\\.(?!arraycopy)", "\\bThread\\b", "\\bvar\\b", "\\bextends\\b"};
+        "\\bprotected\\b", "\\bstatic\\s*\\{", "\\bThrowable\\b", "Exact\\b", "\\bFloat\\.", "\\bDouble\\.",
+        "\\bSystem\\.(?!arraycopy)", "\\bThread\\b", "\\bvar\\b"};
 
     public static void main(String[] args) throws IOException {
         publicFace();

@@ -105,10 +105,15 @@ public final class ForecastTest {
         for (int length : new int[] {-1, 61, Integer.MIN_VALUE, Integer.MAX_VALUE}) {
             DUE.argument("capacity(" + length + ")", () -> x.capacity(length));
         }
-        int[][] due = {{0, 200}, {1, 200}, {2, 200}, {3, 168}, {4, 144}, {10, 72}, {39, 24}, {40, 16}, {60, 16}};
+        int[][] due = {{0, 200}, {1, 200}, {2, 200}, {3, 168}, {4, 144}, {10, 72}, {29, 24}, {39, 24}, {40, 16}, {60, 16}};
         for (int[] pair : due) {
             DUE.answers("capacity(" + pair[0] + ")", pair[1], () -> x.capacity(pair[0]));
         }
+        HeapFile z = new HeapFile();
+        Steps.insert(z, 0, 0);
+        // 121 bytes are free in page 0: two rows of 58 bytes would take 122.
+        DUE.answers("capacity(57)", 16, () -> z.capacity(57));
+        DUE.answers("capacity(58)", 15, () -> z.capacity(58));
         HeapFile y = Steps.fullFile();
         DUE.answers("capacity(0) of a full file", 0, () -> y.capacity(0));
         y.delete(0);

@@ -95,6 +95,13 @@ public final class OrderTextTest {
         DUE.answers("length(2)", 4, () -> x.length(2));
         DUE.answers("returns()", 1, x::returns);
         DUE.answers("savedStates()", 6, x::savedStates);
+        HeapFile z = Steps.fullPage();
+        Steps.update(z, 2, 8, 1);
+        z.delete(0);
+        DUE.answers("run() that brings home", 1, () -> Steps.run(z, "^"));
+        DUE.answers("placeOf(2)", 2, () -> z.placeOf(2));
+        DUE.answers("length(2)", 8, () -> z.length(2));
+        DUE.answers("returns()", 1, z::returns);
         // Identifiers of two and three digits.
         HeapFile y = new HeapFile();
         for (int i = 0; i < 26; i++) {

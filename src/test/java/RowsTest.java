@@ -10,10 +10,12 @@ public final class RowsTest {
         insertFails();
         updateAtHome();
         updateMoves();
+        updateMovesToAnotherSlot();
         updateFails();
         deletes();
         deletesMoved();
         bringsHome();
+        bringsHomeIntoTheLastByte();
         bringsHomeInOrder();
         compacts();
         DUE.end();
@@ -168,6 +170,21 @@ public final class RowsTest {
         DUE.answers("free(0)", 0, () -> x.free(0));
     }
 
+    private static void updateMovesToAnotherSlot() {
+        HeapFile x = Steps.fullPage();
+        Steps.update(x, 0, 51, 1);
+        int[][] rows = {{45, 3}, {60, 101}, {60, 200}, {4, 102}};
+        for (int[] row : rows) {
+            DUE.answers("insert() of " + row[0], row[1], () -> Steps.insert(x, row[0], 2));
+        }
+        DUE.answers("update(0) with 52 bytes", 3, () -> Steps.update(x, 0, 52, 9));
+        DUE.answers("the note", "2 2 1", () -> Steps.bytes(x, 0, 56, 59));
+        DUE.answers("placeOf(0)", 201, () -> x.placeOf(0));
+        DUE.answers("rowAt(201)", 0, () -> x.rowAt(201));
+        DUE.answers("length(0)", 52, () -> x.length(0));
+        DUE.answers("byteOf(0, 51)", 9, () -> x.byteOf(0, 51));
+    }
+
     private static void updateFails() {
         HeapFile x = Steps.fullFile();
         for (int row : Steps.FAR) {
@@ -252,6 +269,16 @@ public final class RowsTest {
         DUE.answers("bringHome() again", 0, y::bringHome);
         DUE.answers("pages()", 2, y::pages);
         DUE.answers("free(1)", 126, () -> y.free(1));
+    }
+
+    private static void bringsHomeIntoTheLastByte() {
+        HeapFile x = Steps.fullPage();
+        Steps.update(x, 2, 8, 1);
+        // 5 free bytes and the note's 3; 9 are needed.
+        DUE.answers("bringHome()", 0, x::bringHome);
+        Steps.update(x, 1, 59, 1);
+        DUE.answers("bringHome() with a byte more", 1, x::bringHome);
+        DUE.answers("free(0)", 0, () -> x.free(0));
     }
 
     /** Two rows of one page are away; what there is of room goes to the lower one, and a return makes room itself. */
