@@ -6,16 +6,22 @@ final class Due {
     }
 
     private final String test;
+    private String sentence = "";
     private int wrong;
 
     Due(String test) {
         this.test = test;
     }
 
+    /** Names the sentence of the document that the next answers stand for. */
+    void sentence(String words) {
+        sentence = " (the document: " + words + ")";
+    }
+
     void same(String call, Object got, Object want) {
         if (!got.equals(want)) {
             wrong++;
-            System.out.println(test + ": " + call + " answered " + got + ", due is " + want);
+            System.out.println(test + ": " + call + " answered " + got + ", due is " + want + sentence);
         }
     }
 
